@@ -591,15 +591,16 @@ public final class SoiledTests {
             return set;
         }
 
-        int flippedIn(Row some) {
+        int passingAlone() {
             int set = 0;
-            int cells = startCells;
-            for (int k = 0; k < some.size; k++) {
-                int t = some.nth(k);
-                set |= oneIf(isFlippedOn(t, cells)) << t;
-                cells = cellsAfter(t, cells);
+            for (int t = 0; t < size; t++) {
+                set |= oneIf(passesOn(t, startCells)) << t;
             }
             return set;
+        }
+
+        int flippedIn(Row some) {
+            return passingIn(some) ^ passingAlone() & some.setAhead(some.size);
         }
 
         /** Of the tests of THE ROW ahead of a place, the last one by which the cell became another. */
@@ -805,8 +806,6 @@ public final class SoiledTests {
         int read(Text text) {
             size = 0;
             wanted = NONE;
-            begun = 0;
-            figures = 0;
             for (int i = 0; i < text.length; i++) {
                 if (!takes(text.nth(i))) {
                     return i;

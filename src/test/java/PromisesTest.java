@@ -111,6 +111,11 @@ public final class PromisesTest {
         for (int k = 0; k < 5; k++) {
             due(new int[] {9, 6, 5, 8, 2}[k], x.of(7, k));
         }
+        due(4, x.back());
+        due(7, x.count(0));
+        due(3, x.back());
+        due(8, x.count(0));
+        due(63, x.of(7, 4));
     }
 
     private static void promise3() {
@@ -332,6 +337,8 @@ public final class PromisesTest {
         // p turns the cell, so p behind itself would clean, but all must be unlike
         SoiledTests y = withTests(t(0, 0, 0, 0, 1), t(1, 0, 1, 0, 0));
         due(0, y.cleans(0, 1));
+        SoiledTests z = withTests(t(0, 0, 1, 0, 0), t(1, 0, 0, 0, 0), t(0, 0, 0, 1, 0), t(0, 0, 0, 0, 1));
+        due(1 | 8, z.cleans(2, 1));
     }
 
     private static void promise13() {
@@ -362,6 +369,10 @@ public final class PromisesTest {
             }
             due(first, x.seed(s, 1));
         }
+        // the last SEED of all is tried, too, whichever of the two lies first by it
+        SoiledTests other = withTests(t(1, 0, 0, 0, 0), t(0, 0, 0, 1, 0));
+        due(999999, shuffled(2, 999999)[0] == 0 ? x.seed(999999, 1) : other.seed(999999, 0));
+        due(NONE, shuffled(2, 999999)[0] == 0 ? other.seed(999999, 0) : x.seed(999999, 1));
         due(NONE, x.seed(0, 0));
         due(NONE, x.seed(999999, 0));
         due(shuffled(2, 999999)[0] == 0 ? 999999 : NONE, x.seed(999999, 1));
@@ -567,6 +578,11 @@ public final class PromisesTest {
         due(0, x.count(6));
         // of all tests, also of those not in THE ROW: 2 and 4 soil 1, 4 soils 3
         due(3, x.count(7));
+        SoiledTests y = withTests(t(1, 0, 0, 0, 0), t(0, 0, 0, 1, 0), t(0, 1, 0, 0, 0), t(1, 0, 0, 0, 0));
+        due(3, y.count(7));
+        laysAll(y, 2, 1, 0, 3);
+        due(1, y.count(5));
+        due(2, y.count(6));
         due(BAD, x.count(8));
         due(BAD, x.count(-1));
         due(2, x.told(0));
