@@ -385,6 +385,18 @@ public final class BoundariesTest {
     }
 
     @Says(promise = 0, words = "of the TESTS ahead of it the last one by which that CELL became another")
+    private static void whoMakesWhatIsSoAlreadyIsNotTheOne() {
+        SoiledTests x = laid(with(makes1(1), makes1(1), makes0(1), makes0(1), IDLE), 0, 1, 4, 2, 3);
+        due(0, x.who(1, 0));
+        due(0, x.who(4, 0));
+        due(0, x.who(2, 0));
+        due(2, x.who(3, 0));
+        x.start(1);
+        due(NONE, x.who(4, 0));
+        due(2, x.who(3, 0));
+    }
+
+    @Says(promise = 0, words = "of the TESTS ahead of it the last one by which that CELL became another")
     private static void whoFailsDoesItInModeOneAlone() {
         SoiledTests x = laid(with(turns(1), t(0, 2, 0, 0, 1), IDLE), 0, 1, 2);
         due(0, x.who(2, 0));
@@ -402,6 +414,18 @@ public final class BoundariesTest {
         due(0, x.soils(0, 1));
         due(1, x.soils(2, 1));
         due(1, x.soils(3, 1));
+    }
+
+    @Says(promise = 0, words = "p SOILS v (unlike): v is FLIPPED in the row p, v")
+    private static void oneThatFailsSoilsInModeOneAlone() {
+        SoiledTests x = with(t(0, 1, 0, 2, 0), needs0(2));
+        due(0, x.soils(0, 1));
+        due(0, x.count(7));
+        refused(NO, x, y -> y.cleans(0, 1));
+        x.mode(1);
+        due(1, x.soils(0, 1));
+        due(1, x.count(7));
+        due(0, x.cleans(0, 1));
     }
 
     @Says(promise = 0, words = "c CLEANS p for v (all unlike)")
@@ -473,6 +497,15 @@ public final class BoundariesTest {
         SoiledTests x = laid(with(turns(1), turns(1), makes1(2), t(1, 2, 0, 0, 0)), 0, 1, 2, 3);
         due(7, x.left(3, 0));
         due(0, x.trims(3));
+    }
+
+    @Says(promise = 0, words = "from the first one of AHEAD to the last")
+    private static void leastGoesToTheLastAheadOfTheFirstAgain() {
+        // once 1 is gone, 0 could go, too, but it is the turn of 2, and behind that 0 can not
+        SoiledTests x = laid(with(makes1(1), t(1, 0, 0, 2, 0), t(2, 0, 0, 1, 0), needs0(1)), 0, 1, 2, 3);
+        due(1, x.left(3, 0));
+        due(2, x.trims(3));
+        dueRow(x, 0, 3);
     }
 
     @Says(promise = 0, words = "that with the fewest TESTS")
@@ -602,7 +635,19 @@ public final class BoundariesTest {
         due(75, x.does());
         dueOfText(1, " ".repeat(148) + "w;");
         dueOfText(1, "w;" + " ".repeat(148));
-        dueOfText(8, ("t" + " ".repeat(5) + "1 2 4 8 16;").repeat(8) + " ".repeat(22));
+        dueOfText(8, ("t" + " ".repeat(5) + "1 2 4 8 16;").repeat(8) + " ".repeat(14));
+    }
+
+    @Says(promise = 0, words = "THE TEXT (150 bytes at most)")
+    private static void lateOrdersHaveTheirNumbers() {
+        SoiledTests x = typed("s9;".repeat(49) + "s5;");
+        due(50, x.does());
+        due(5, x.count(2));
+        SoiledTests y = typed("w;".repeat(69) + "t1 2 4 8 16;");
+        due(70, y.does());
+        for (int what = 0; what <= 4; what++) {
+            due(1 << what, y.of(0, what));
+        }
     }
 
     @Says(promise = 0, words = "tells ORDERS, each ended by ;")
@@ -1280,6 +1325,8 @@ public final class BoundariesTest {
         due(0, with(makes1(1), needs0(1), IDLE).cleans(0, 1));
         int[] clean = makes0(1);
         due(126, with(needs0(1), clean, clean, clean, clean, clean, clean, makes1(1)).cleans(7, 0));
+        due(252, with(needs0(1), makes1(1), clean, clean, clean, clean, clean, clean).cleans(1, 0));
+        due(63, with(clean, clean, clean, clean, clean, clean, makes1(1), needs0(1)).cleans(6, 7));
     }
 
     @Says(promise = 12, words = "NO: p does not SOIL v.")
@@ -1725,6 +1772,28 @@ public final class BoundariesTest {
         }
     }
 
+    @Says(promise = 23, words = "A STATE back: how many can be yet.")
+    private static void backBringsAllOfEightTests() {
+        SoiledTests x = new SoiledTests();
+        for (int k = 0; k < 8; k++) {
+            x.test(k, 63 ^ k, k, 56, 7 ^ k);
+        }
+        x.shuffles(1);
+        due(7, x.cuts());
+        due(7, adds(x, IDLE));
+        due(7, x.wipes());
+        due(4, x.back());
+        due(3, x.back());
+        due(2, x.back());
+        for (int k = 0; k < 8; k++) {
+            int[] told = {k, 63 ^ k, k, 56, 7 ^ k};
+            for (int what = 0; what <= 4; what++) {
+                due(told[what], x.of(k, what));
+            }
+        }
+        dueRow(x, 1, 7, 2, 5, 0, 3, 4, 6);
+    }
+
     @Says(promise = 24, words = "bytes of THE TEXT (3), STATES (4). BAD.")
     private static void toldBeyondTheEnds() {
         for (int what : new int[] {-1, LOWEST, 5, 6, HIGHEST}) {
@@ -1769,6 +1838,31 @@ public final class BoundariesTest {
         adds(x, IDLE);
         adds(x, IDLE);
         adds(x, IDLE);
+        dueDigest(x);
+    }
+
+    @Says(promise = 25, words = "of each TEST of(0) to of(5); of those in THE ROW, as they lie, the number, inRow(1) to inRow(4)")
+    private static void digestOfAnEmptyRowAndOfSome() {
+        SoiledTests x = with(t(1, 2, 4, 8, 16), makes1(1), needs0(1), needs1(1));
+        dueDigest(x);
+        laid(x, 3, 1, 2);
+        dueDigest(x);
+        x.mode(1);
+        dueDigest(x);
+    }
+
+    @Says(promise = 25, words = "of each TEST of(0) to of(5); of those in THE ROW, as they lie, the number, inRow(1) to inRow(4)")
+    private static void digestCountsAndChangesNothing() {
+        SoiledTests x = soiled();
+        String before = stateOf(x);
+        x.digest();
+        dueTrue(before.equals(stateOf(x)));
+        for (int what = 0; what <= 2; what++) {
+            due(0, x.told(what));
+        }
+    }
+
+    private static void dueDigest(SoiledTests x) {
         java.math.BigInteger h = java.math.BigInteger.valueOf(18056);
         for (int v : valuesOfDigest(x)) {
             h = h.multiply(java.math.BigInteger.valueOf(31)).add(java.math.BigInteger.valueOf(v));
