@@ -1130,6 +1130,23 @@ public final class BoundariesTest {
         due(1, x.lays(1));
     }
 
+    @Says(promise = 3, words = "The last TEST goes (from THE ROW, too): how many are left.")
+    private static void theOneThatWentSoilsAndCleansNoMore() {
+        SoiledTests x = with(needs0(1), makes1(1), makes0(1), makes1(1));
+        due(2, x.count(7));
+        due(4, x.cleans(1, 0));
+        x.cuts();
+        due(1, x.count(7));
+        x.cuts();
+        due(0, x.cleans(1, 0));
+        x.cuts();
+        due(0, x.count(7));
+        due(0, x.flips(0));
+        SoiledTests y = with(makes1(1), needs0(1));
+        y.cuts();
+        due(0, y.count(7));
+    }
+
     @Says(promise = 3, words = "NO: there is none.")
     private static void nothingToCut() {
         refused(NO, new SoiledTests(), SoiledTests::cuts);
