@@ -3,9 +3,13 @@ import java.lang.reflect.Method;
 import java.lang.reflect.Modifier;
 import java.nio.file.Files;
 import java.nio.file.Path;
+import java.util.ArrayDeque;
 import java.util.Arrays;
+import java.util.Deque;
 import java.util.List;
+import java.util.Map;
 import java.util.Set;
+import java.util.TreeMap;
 import java.util.TreeSet;
 import java.util.regex.Matcher;
 import java.util.regex.Pattern;
@@ -112,6 +116,79 @@ public final class LanguageTest {
             must(allowed.contains(library.group()), library.group() + " is of the library that the rules list");
         }
         methodsAreShort(whole);
+        objectsAreMadeInConstructorsAlone(code);
+        Map<String, Set<String>> calls = callsOfMethods(code);
+        must(calls.keySet().containsAll(Set.of("digest", "trims", "Suite.wrongCells", "Orders.read")), "the methods were found");
+        for (String method : calls.keySet()) {
+            int deep = depthOf(method, calls, new ArrayDeque<>());
+            must(deep <= 8, method + " stands at most eight calls deep, and no method comes to itself");
+        }
+    }
+
+    /** All calls of a run share one room, so a call makes nothing: what is made is a field, or a slot of Past. */
+    private static void objectsAreMadeInConstructorsAlone(String code) {
+        for (String line : code.split("\n")) {
+            boolean isField = line.matches(" +private final [\\w\\[\\]]+ \\w+ = new .*;");
+            must(!line.matches(".*\\bnew\\b.*") || isField || line.strip().equals("slots[i] = new Suite();"),
+                "no method makes an object, as in " + line.strip());
+        }
+    }
+
+    /** Each method (of a class inside: with the class's name) and those it may call, as the source's names tell. */
+    private static Map<String, Set<String>> callsOfMethods(String code) {
+        Map<String, String> bodies = new TreeMap<>();
+        String owner = "";
+        String method = "";
+        for (String line : code.split("\n")) {
+            Matcher inside = Pattern.compile("    private static final class (\\w+) \\{").matcher(line);
+            Matcher head = Pattern.compile(" {4,8}(?:\\w+ )*?(\\w+)\\([^;]*\\) \\{").matcher(line);
+            boolean isStatement = line.matches(" +(if|for|while|switch|return)\\b.*");
+            if (line.equals("    }") && !owner.isEmpty()) {
+                owner = "";
+            } else if (inside.matches()) {
+                owner = inside.group(1) + ".";
+            } else if (head.matches() && !isStatement) {
+                method = owner + head.group(1);
+            } else if (!method.isEmpty()) {
+                bodies.merge(method, line + "\n", String::concat);
+            }
+        }
+        Map<String, Set<String>> calls = new TreeMap<>();
+        for (String caller : bodies.keySet()) {
+            calls.put(caller, calledIn(bodies.get(caller), caller, bodies.keySet()));
+        }
+        return calls;
+    }
+
+    private static Set<String> calledIn(String body, String caller, Set<String> methods) {
+        Set<String> called = new TreeSet<>();
+        String owner = caller.replaceAll("\\w+$", "");
+        Matcher call = Pattern.compile("(\\.?)\\b(\\w+)\\(").matcher(body);
+        while (call.find()) {
+            boolean isOfAnother = !call.group(1).isEmpty();
+            for (String method : methods) {
+                boolean fits = isOfAnother ? method.endsWith("." + call.group(2))
+                    : method.equals(owner + call.group(2)) || method.equals(call.group(2));
+                // a call on another object that has the caller's own name: Suite.copyFrom hands on to Row.copyFrom
+                if (fits && !(isOfAnother && method.equals(caller))) {
+                    called.add(method);
+                }
+            }
+        }
+        return called;
+    }
+
+    private static int depthOf(String method, Map<String, Set<String>> calls, Deque<String> open) {
+        if (open.contains(method)) {
+            return 1000;
+        }
+        open.push(method);
+        int deepest = 0;
+        for (String called : calls.get(method)) {
+            deepest = Math.max(deepest, depthOf(called, calls, open));
+        }
+        open.pop();
+        return deepest + 1;
     }
 
     private static void methodsAreShort(String whole) {
